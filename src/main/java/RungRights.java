@@ -1210,7 +1210,10 @@ public final class RungRights {
         }
     }
 
-    /** Chances by even strides, exactly: the chance of place p is chances[p] by s to the p. */
+    /**
+     * Chances by even strides, exactly: the chance of place p is chances[p] by s to the p. Each of chances[p]
+     * is one more than a multiple of s, and so is the upper number of the mean: they are in lowest terms already.
+     */
     private static final class Feet {
         private final long[] chances = new long[RUNGS + 1];
         private long upper = 0;
@@ -1218,17 +1221,18 @@ public final class RungRights {
 
         void chanceOn(int s, int r) {
             reckonChances(s);
-            setFraction(isRung(r) ? chances[r] : 0, power(s, r));
+            upper = isRung(r) ? chances[r] : 0;
+            lower = power(s, r);
         }
 
         /** One makes a step from each place below r on which one sets foot, and from no other. */
         void meanStepsTo(int s, int r) {
             reckonChances(s);
-            long sum = 0;
+            upper = 0;
             for (int place = 0; place < r && place <= RUNGS; place++) {
-                sum += chances[place] * power(s, r - 1 - place);
+                upper += chances[place] * power(s, r - 1 - place);
             }
-            setFraction(sum, power(s, r - 1));
+            lower = power(s, r - 1);
         }
 
         private void reckonChances(int s) {
@@ -1248,21 +1252,6 @@ public final class RungRights {
                 product *= base;
             }
             return product;
-        }
-
-        private void setFraction(long over, long under) {
-            long common = greatestDivisor(over, under);
-            upper = common > 0 ? over / common : over;
-            lower = common > 0 ? under / common : under;
-        }
-
-        private static long greatestDivisor(long a, long b) {
-            for (int i = 0; i < 200 && b != 0; i++) {
-                long rest = a % b;
-                a = b;
-                b = rest;
-            }
-            return a;
         }
 
         long upperNumber() {
