@@ -1,3 +1,5 @@
+import java.util.List;
+
 /** The edges of promises 12 to 15: climb, ways, leases, stand. */
 final class ClimbsEdges extends Edges {
     ClimbsEdges(Check check, Document document) {
@@ -7,6 +9,7 @@ final class ClimbsEdges extends Edges {
     @Override
     void all() {
         asThingsAreNow();
+        eachIsAnsweredAlone();
         promise12FewestAndMost();
         promise12TheFirstStep();
         promise12None();
@@ -64,8 +67,31 @@ final class ClimbsEdges extends Edges {
         dueLeases(s, x, 0, NONE, NONE);
     }
 
+    /** Whatever was asked ahead of it, a question is answered as on an object that was asked nothing. */
+    private void eachIsAnsweredAlone() {
+        Sentence s = says(12, "(As things are now, nobody being in the way, all steps at once.)");
+        List<Sentence.Call> asked = List.of(x -> x.climb(0, 0), x -> x.climb(0, 1), x -> x.climb(2, 1), x -> x.climb(3, 0),
+            x -> x.ways(0), x -> x.ways(2), x -> x.ways(3), x -> x.leases(0, 0), x -> x.leases(1, 1), x -> x.leases(2, 0),
+            x -> x.stand(-1), x -> x.stand(0), x -> x.stand(5), x -> x.ups(-1), x -> x.ups(0), x -> x.ask(0), x -> x.ask(1),
+            x -> x.down(4094, 0), x -> x.down(1365, 1), x -> x.foot(4, 12, 0, 0), x -> x.foot(3, 5, 1, 1),
+            x -> x.foot(2, 7, 1, 0), x -> x.year(1, 99, 0), x -> x.year(77, 50, 1), x -> x.year(9999, 99, 2),
+            x -> x.judge(0), x -> x.judge(1), x -> x.behind(1, 0), x -> x.behind(2, 1), x -> x.bears(9, 1), x -> x.then(2),
+            x -> x.then(3), x -> x.then(4), x -> x.told(11), RungRights::fault);
+        for (Scene scene : Scene.values()) {
+            for (int first = 0; first < asked.size(); first++) {
+                for (int second = 0; second < asked.size(); second++) {
+                    RungRights x = scene.make();
+                    asked.get(first).on(x);
+                    long alone = asked.get(second).on(scene.make());
+                    s.due(scene + " question " + second + " behind question " + first, asked.get(second).on(x), alone);
+                }
+            }
+        }
+    }
+
     private void promise12FewestAndMost() {
-        Sentence s = says(12, "CLIMB of a MAN from where he is to the roof: the fewest steps; onto which place the first one goes, the least (NONE: he is there); NONE.");
+        Sentence s = says(12, "CLIMB of a MAN from where he is to the roof: the fewest steps; onto which place the "
+            + "first one goes, the least (NONE: he is there); NONE.");
         for (int stride = 1; stride <= 4; stride++) {
             for (int place = 0; place <= ROOF; place++) {
                 RungRights x = standing(3, stride, place);
@@ -184,7 +210,9 @@ final class ClimbsEdges extends Edges {
     }
 
     private void promise14WhichCanBeLeased() {
-        Sentence s = says(14, "LEASES of a MAN: the fewest RUNGS more that must be LEASED to him (any that are there, and that are neither nobody's nor LEASED, COINS being no matter) so that he can come from where he is to the roof: how many; which, least as bits of as few; NONE.");
+        Sentence s = says(14, "LEASES of a MAN: the fewest RUNGS more that must be LEASED to him (any that are "
+            + "there, and that are neither nobody's nor LEASED, COINS being no matter) so that he can come from "
+            + "where he is to the roof: how many; which, least as bits of as few; NONE.");
         RungRights x = standing(0, 1, 11);
         x.man(0, 1, 0, 11);
         x.rung(12, 1, -1, 0);
@@ -305,7 +333,8 @@ final class ClimbsEdges extends Edges {
     }
 
     private void promise15OneOnEach() {
-        Sentence s = says(15, "STAND: how many MEN can stand on RUNGS at once, each on one on which he MAY be, on each one at most");
+        Sentence s = says(15, "STAND: how many MEN can stand on RUNGS at once, each on one on which he MAY be, on "
+            + "each one at most");
         RungRights x = new RungRights();
         for (int man = 0; man < MEN; man++) {
             x.rung(RUNGS - man, man, -1, 0);

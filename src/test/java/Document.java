@@ -27,7 +27,8 @@ final class Document {
             System.out.println("no " + path + ": quotes are not looked up");
         }
         isThere = !text.isEmpty();
-        parts[TERMS] = plain(callsOfAnObject(text) + " " + constants(text) + " " + between(text, "## Terms", "## Promise 1:"));
+        String terms = between(text, "## Terms", "## Promise 1:");
+        parts[TERMS] = plain(callsOfAnObject(text) + " " + constants(text) + " " + terms);
         for (int promise = 1; promise <= PROMISES; promise++) {
             String end = promise == PROMISES ? "## Not promised" : "## Promise " + (promise + 1) + ":";
             parts[promise] = plain(between(text, "## Promise " + promise + ":", end).replaceFirst("(?s)^.*?`:", ""));
@@ -59,8 +60,9 @@ final class Document {
 
     /** Without what is no sentence: fences, the numbers of the parts, and what stands ahead of which calls. */
     private static String plain(String text) {
-        String lines = text.replaceAll("(?m)^```.*$", "").replaceAll("(?m)^=+ \\d+ ", "").replaceAll("(?m)^Ahead of the calls.*$", "");
-        return lines.replaceAll("\\s+", " ").trim();
+        String sentences = text.replaceAll("(?m)^```.*$", "").replaceAll("(?m)^=+ \\d+ ", "")
+            .replaceAll("(?m)^Ahead of the calls.*$", "");
+        return sentences.replaceAll("\\s+", " ").trim();
     }
 
     /** Whether the words stand in that promise, or in the terms; they are quoted then. */

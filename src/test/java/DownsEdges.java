@@ -41,7 +41,8 @@ final class DownsEdges extends Edges {
     }
 
     private void promise20OneAlone() {
-        Sentence s = says(20, "DOWN: some stand on RUNGS (a set, 0 to 4095, bit 0 the RUNG 1); two by turns bring one of them down by some RUNGS, onto a RUNG");
+        Sentence s = says(20, "DOWN: some stand on RUNGS (a set, 0 to 4095, bit 0 the RUNG 1); two by turns bring "
+            + "one of them down by some RUNGS, onto a RUNG");
         dueDown(s, 1, 0, NONE);
         for (int rung = 2; rung <= RUNGS; rung++) {
             dueDown(s, bit(rung), 1, 100 * rung + 1);
@@ -64,7 +65,8 @@ final class DownsEdges extends Edges {
 
     /** By the class's own answers, for every set: who begins wins just if one move leaves a set that loses. */
     private void promise20WhoCanNotHasLost() {
-        Sentence s = says(20, "whether who begins can win (1, 0); what he does first for it: 100 times from which RUNG, and onto which, the least (NONE)");
+        Sentence s = says(20, "whether who begins can win (1, 0); what he does first for it: 100 times from which "
+            + "RUNG, and onto which, the least (NONE)");
         int[] wins = new int[SETS];
         int[] moves = new int[SETS];
         for (int set = 0; set < SETS; set += SETS_OF_AN_OBJECT) {
@@ -110,7 +112,8 @@ final class DownsEdges extends Edges {
     }
 
     private void promise21OnIt() {
-        Sentence s = says(21, "FOOT: with a STRIDE s (1 to 4) each step goes up 1 to s RUNGS, each as likely: that one sets foot on RUNG r (1 to 12)");
+        Sentence s = says(21, "FOOT: with a STRIDE s (1 to 4) each step goes up 1 to s RUNGS, each as likely: that "
+            + "one sets foot on RUNG r (1 to 12)");
         for (int rung = 1; rung <= RUNGS; rung++) {
             dueFoot(s, 1, rung, 0, 1, 1);
         }
@@ -135,7 +138,7 @@ final class DownsEdges extends Edges {
             dueFoot(s, stride, 1, 1, 1, 1);
             BigInteger[] mean = {BigInteger.ZERO, BigInteger.ONE};
             for (int rung = 1; rung <= RUNGS; rung++) {
-                mean = sum(mean, rung == 1 ? new BigInteger[] {BigInteger.ONE, BigInteger.ONE} : chance(stride, rung - 1));
+                mean = sum(mean, chance(stride, rung - 1));
                 dueFoot(s, stride, rung, 1, mean[0].longValueExact(), mean[1].longValueExact());
             }
         }
@@ -162,7 +165,8 @@ final class DownsEdges extends Edges {
     }
 
     private void promise21LowestTerms() {
-        Sentence s = says(21, "Fractions are told in lowest terms by part: 0 the upper, 1 the lower number; refused with LOST and the refusal.");
+        Sentence s = says(21, "Fractions are told in lowest terms by part: 0 the upper, 1 the lower number; refused "
+            + "with LOST and the refusal.");
         for (int stride = 1; stride <= 4; stride++) {
             RungRights x = new RungRights();
             for (int rung = 1; rung <= RUNGS; rung++) {

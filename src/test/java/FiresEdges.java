@@ -1,3 +1,5 @@
+import java.util.List;
+
 /** The edges of promises 7 to 11: judge, done, behind, bears, then; and of what ACTS do. */
 final class FiresEdges extends Edges {
     FiresEdges(Check check, Document document) {
@@ -12,6 +14,7 @@ final class FiresEdges extends Edges {
         promise7No();
         promise7Pure();
         promise8Steps();
+        promise8NothingElse();
         promise8Leases();
         promise8Gone();
         promise8Back();
@@ -84,7 +87,8 @@ final class FiresEdges extends Edges {
     }
 
     private void promise8Steps() {
-        Sentence s = says(8, "a MAN's letter and: a RUNG's letter, ^, or _ (he steps onto that RUNG, the roof, the ground: he has STEPPED)");
+        Sentence s = says(8, "a MAN's letter and: a RUNG's letter, ^, or _ (he steps onto that RUNG, the roof, the "
+            + "ground: he has STEPPED)");
         RungRights x = new RungRights();
         x.man(1, 4, 5, 9);
         x.man(2, 4, 5, 4);
@@ -102,8 +106,44 @@ final class FiresEdges extends Edges {
         s.due("from the ground onto a RUNG", x.told(12), 4);
     }
 
+    private void dueChanges(Sentence s, String text, String... rows) {
+        RungRights x = new RungRights();
+        x.rung(1, 0, 5, 0);
+        x.rung(2, 1, 0, 0);
+        x.rung(3, 2, -1, 0);
+        x.man(3, 1, 0, 12);
+        x.man(4, 1, 9, ROOF);
+        List<String> before = Shown.toldOf(x);
+        Check.tell(x, text);
+        x.done();
+        List<String> changed = Shown.toldOf(x);
+        changed.removeAll(before);
+        s.holds(text + " changes " + List.of(rows) + ", not " + changed, changed.equals(List.of(rows)));
+    }
+
+    private void promise8NothingElse() {
+        Sentence s = says(8, "DONE: all is so then.");
+        dueChanges(s, "");
+        dueChanges(s, "Aa", "told(3) = 1", "told(10) = 1");
+        dueChanges(s, "Ab", "told(3) = 1", "told(10) = 2");
+        dueChanges(s, "D^", "told(2) = 24", "told(3) = 8", "told(13) = 13");
+        dueChanges(s, "DkEl.E^", "told(1) = 1", "told(3) = 16", "told(13) = 11");
+        dueChanges(s, "A%c", "told(20) = 4", "told(22) = 6", "told(63) = 0");
+        dueChanges(s, "F%c", "told(22) = 6", "told(25) = 4", "told(63) = 5");
+        dueChanges(s, "kb", "told(4) = 2", "told(42) = -6", "told(62) = -6");
+        dueChanges(s, "kb+b", "told(42) = -6", "told(62) = -6");
+        dueChanges(s, "kl", "told(4) = 2048");
+        dueChanges(s, "kl+l");
+        dueChanges(s, ".", "told(1) = 1");
+        dueChanges(s, "Ab.", "told(1) = 1", "told(10) = 2");
+        dueChanges(s, "Ab.A_.", "told(1) = 2");
+        dueChanges(s, "AbA^", "told(0) = 4");
+        dueChanges(s, "Ab!", "told(0) = 3");
+    }
+
     private void promise8Leases() {
-        Sentence s = says(8, "or % and a RUNG's letter (it is LEASED to him: he has a COIN fewer, whose it is one more)");
+        Sentence s = says(8, "or % and a RUNG's letter (it is LEASED to him: he has a COIN fewer, whose it is one "
+            + "more)");
         RungRights x = new RungRights();
         x.rung(1, 5, -1, 0);
         x.rung(12, 0, -1, 0);
@@ -121,7 +161,8 @@ final class FiresEdges extends Edges {
     }
 
     private void promise8Gone() {
-        Sentence s = says(8, "k and a RUNG's letter (it is MISSING; nobody's, LEASED to nobody, but it keeps who stands on it)");
+        Sentence s = says(8, "k and a RUNG's letter (it is MISSING; nobody's, LEASED to nobody, but it keeps who "
+            + "stands on it)");
         for (int rung = 1; rung <= RUNGS; rung++) {
             RungRights x = new RungRights();
             x.rung(rung, 5, 0, 0);
@@ -227,7 +268,8 @@ final class FiresEdges extends Edges {
     }
 
     private void promise9AllOfAMan() {
-        Sentence s = says(9, "of a MAN the place, his COINS, RUNGS on which he MAY be (bits, 0 the RUNG 1, and so on), whether he has STEPPED (1, 0)");
+        Sentence s = says(9, "of a MAN the place, his COINS, RUNGS on which he MAY be (bits, 0 the RUNG 1, and so "
+            + "on), whether he has STEPPED (1, 0)");
         Sentence whats = says(9, "BEHIND: the place (what = 0), COINS (1), RUNGS (2), STEPPED (3).");
         RungRights x = new RungRights();
         x.man(0, 2, 1, 12);
@@ -293,7 +335,8 @@ final class FiresEdges extends Edges {
     }
 
     private void promise10AllOfARung() {
-        Sentence s = says(10, "of a RUNG whose it is, to whom it is LEASED, who stands on it, the least (NONE each), whether it is MISSING (1, 0)");
+        Sentence s = says(10, "of a RUNG whose it is, to whom it is LEASED, who stands on it, the least (NONE each), "
+            + "whether it is MISSING (1, 0)");
         Sentence whats = says(10, "BEHIND: whose (what = 0), LEASED (1), who stands (2); NONE; MISSING (3).");
         for (int rung = 1; rung <= RUNGS; rung++) {
             RungRights x = new RungRights();
@@ -359,7 +402,8 @@ final class FiresEdges extends Edges {
     }
 
     private void promise11AllOfIt() {
-        Sentence s = says(11, "BEHIND: the beat (what = 0), the roof (1), steps (2), COINS (3), the ACT (4; NONE), who (5; NONE).");
+        Sentence s = says(11, "BEHIND: the beat (what = 0), the roof (1), steps (2), COINS (3), the ACT (4; NONE), "
+            + "who (5; NONE).");
         dueThen(s, new RungRights(), 0, 0, 0, 0, NONE, NONE);
         RungRights x = new RungRights();
         x.rung(1, 5, -1, 0);
@@ -377,7 +421,8 @@ final class FiresEdges extends Edges {
     }
 
     private void promise11TheRoof() {
-        Sentence s = says(11, "of all: the beat, those on the roof (bits), steps, COINS that were paid in the text, the first ACT by which one came onto the roof, who (NONE).");
+        Sentence s = says(11, "of all: the beat, those on the roof (bits), steps, COINS that were paid in the text, "
+            + "the first ACT by which one came onto the roof, who (NONE).");
         RungRights x = new RungRights();
         for (int man = 0; man < MEN; man++) {
             x.man(man, 1, 5, RUNGS);

@@ -146,7 +146,8 @@ final class ImagesEdges extends Edges {
     }
 
     private void promise25OfAll() {
-        Sentence s = says(25, "0 signs, 1 the beat, 2 those on the roof (bits), 3 those who have STEPPED (bits), 4 MISSING RUNGS (bits, 0 the RUNG 1), 5 SIGHTS");
+        Sentence s = says(25, "0 signs, 1 the beat, 2 those on the roof (bits), 3 those who have STEPPED (bits), 4 "
+            + "MISSING RUNGS (bits, 0 the RUNG 1), 5 SIGHTS");
         RungRights x = new RungRights();
         for (int what = 0; what <= 5; what++) {
             s.due("told(" + what + ") at first", x.told(what), 0);
@@ -205,8 +206,9 @@ final class ImagesEdges extends Edges {
     }
 
     private static boolean isTold(int what) {
-        return what >= 0 && what <= 5 || what >= 10 && what <= 15 || what >= 20 && what <= 25 || what >= 30 && what <= 35
-            || what >= 41 && what <= 52 || what >= 61 && what <= 72;
+        boolean ofMan = what >= 10 && what <= 15 || what >= 20 && what <= 25 || what >= 30 && what <= 35;
+        boolean ofRung = what >= 41 && what <= 52 || what >= 61 && what <= 72;
+        return what >= 0 && what <= 5 || ofMan || ofRung;
     }
 
     private void promise25Outside() {

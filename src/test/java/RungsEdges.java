@@ -66,7 +66,8 @@ final class RungsEdges extends Edges {
     }
 
     private void promise1Rungs() {
-        Sentence s = says(1, "A RUNG is there (at first), or MISSING; it is a MAN's 0 to 5, or nobody's (at first), and may be LEASED to one MAN.");
+        Sentence s = says(1, "A RUNG is there (at first), or MISSING; it is a MAN's 0 to 5, or nobody's (at first), "
+            + "and may be LEASED to one MAN.");
         RungRights x = new RungRights();
         s.due("MISSING at first", x.told(4), 0);
         for (int rung = 1; rung <= RUNGS; rung++) {
@@ -202,7 +203,7 @@ final class RungsEdges extends Edges {
         for (int rung = 1; rung <= RUNGS; rung++) {
             RungRights x = new RungRights();
             for (int owner = 5; owner >= -1; owner--) {
-                s.holds("rung(" + rung + ", " + owner + ", -1, 0) is taken", x.rung(rung, owner, -1, 0) != UNKNOWN);
+                s.due("rung(" + rung + ", " + owner + ", -1, 0)", x.rung(rung, owner, -1, 0), owner == 5 ? NONE : owner + 1);
                 s.due("whose it is", x.told(40 + rung), owner == -1 ? NONE : owner);
                 s.due("whose its neighbour is", x.told(40 + rung % RUNGS + 1), NONE);
             }
@@ -213,9 +214,11 @@ final class RungsEdges extends Edges {
         Sentence s = says(2, "to whom it is LEASED (-1: to nobody)");
         for (int rung = 1; rung <= RUNGS; rung++) {
             RungRights x = new RungRights();
+            int before = NONE;
             for (int lease = 5; lease >= -1; lease--) {
                 int owner = lease == 3 ? 4 : 3;
-                s.holds("rung(" + rung + ", " + owner + ", " + lease + ", 0) is taken", x.rung(rung, owner, lease, 0) != UNKNOWN);
+                s.due("rung(" + rung + ", " + owner + ", " + lease + ", 0)", x.rung(rung, owner, lease, 0), before);
+                before = owner;
                 s.due("to whom it is LEASED", x.told(60 + rung), lease == -1 ? NONE : lease);
                 s.due("its neighbour", x.told(60 + rung % RUNGS + 1), NONE);
             }
@@ -434,7 +437,8 @@ final class RungsEdges extends Edges {
 
     /** Every sign that there is, where an act begins, first in a text and behind another act. */
     private void promise6WhatBeginsAnAct() {
-        Sentence s = says(6, "THE FAULT: the place (from 0 on) of the first sign that can not stand there; the number of signs, if more must come.");
+        Sentence s = says(6, "THE FAULT: the place (from 0 on) of the first sign that can not stand there; the "
+            + "number of signs, if more must come.");
         for (char sign = 33; sign <= 126; sign++) {
             boolean needsMore = sign >= 'A' && sign <= 'F' || sign == 'k' || sign == '+';
             dueFault(s, "" + sign, sign == '.' ? NONE : needsMore ? 1 : 0);
@@ -462,7 +466,8 @@ final class RungsEdges extends Edges {
     }
 
     private void promise6FirstAndLast() {
-        Sentence s = says(6, "THE FAULT: the place (from 0 on) of the first sign that can not stand there; the number of signs, if more must come.");
+        Sentence s = says(6, "THE FAULT: the place (from 0 on) of the first sign that can not stand there; the "
+            + "number of signs, if more must come.");
         dueFault(s, "zz", 0);
         dueFault(s, "Az!", 1);
         dueFault(s, "A%z%", 2);

@@ -22,16 +22,27 @@ final class Shown {
         return shown.rows;
     }
 
+    /** What is told of rungs, men and the beat, without using the object up. */
+    static List<String> toldOf(RungRights x) {
+        Shown shown = new Shown(x);
+        shown.told("");
+        return shown.rows;
+    }
+
     private void row(String call, long answer) {
         rows.add(call + " = " + answer);
     }
 
-    private void now(String when) {
+    private void told(String when) {
         for (int what = 0; what <= 72; what++) {
             if (what <= 5 || what >= 10 && what < 40 && what % 10 <= 5 || what >= 41 && what <= 52 || what >= 61) {
                 row(when + "told(" + what + ")", x.told(what));
             }
         }
+    }
+
+    private void now(String when) {
+        told(when);
         for (int i = -1; i < 12; i++) {
             row(when + "ups(" + i + ")", x.ups(i));
         }

@@ -19,7 +19,8 @@ final class TermsEdges extends Edges {
     }
 
     private void constants() {
-        Sentence s = says(1, "NONE = -6, UNKNOWN = -1, OUTSIDE = -2, STATE = -3, FULL = -4, NO = -5; LOST = -1000000000000000000L;");
+        Sentence s = says(1, "NONE = -6, UNKNOWN = -1, OUTSIDE = -2, STATE = -3, FULL = -4, NO = -5; LOST = "
+            + "-1000000000000000000L;");
         s.due("NONE", RungRights.NONE, -6);
         s.due("UNKNOWN", RungRights.UNKNOWN, -1);
         s.due("OUTSIDE", RungRights.OUTSIDE, -2);
@@ -30,7 +31,8 @@ final class TermsEdges extends Edges {
     }
 
     private void the512thCall() {
-        Sentence s = says(1, "An object is used for at most 512 calls after it has been made; what later calls answer is free.");
+        Sentence s = says(1, "An object is used for at most 512 calls after it has been made; what later calls "
+            + "answer is free.");
         RungRights x = new RungRights();
         for (int i = 1; i <= 510; i++) {
             s.due("call " + i, x.man(3, 1 + i % 4, i % 100, i % 14), i == 1 ? 5 : (i - 1) % 14 * 100 + (i - 1) % 100);
@@ -41,7 +43,8 @@ final class TermsEdges extends Edges {
 
     /** In every scene: also where the pad makes for a NO, and where pad and sights are full. */
     private void unknownIsFirst() {
-        Sentence s = says(2, "Calls that are refused answer, the first of these that fits: UNKNOWN -1 (there is no such RUNG, MAN, by number)");
+        Sentence s = says(2, "Calls that are refused answer, the first of these that fits: UNKNOWN -1 (there is no "
+            + "such RUNG, MAN, by number)");
         s.refuses("rung(0, 0, 0, 2)", UNKNOWN, x -> x.rung(0, 0, 0, 2));
         s.refuses("rung(1, 6, -1, 2)", UNKNOWN, x -> x.rung(1, 6, -1, 2));
         s.refuses("rung(1, -1, 6, 2)", UNKNOWN, x -> x.rung(1, -1, 6, 2));

@@ -132,7 +132,8 @@ final class TrailsEdges extends Edges {
     }
 
     private void promise18TheIth() {
-        Sentence s = says(18, "UPS: 10 times the MAN, and the manner, by which all SIGHTS are so (12 can be): how many; the i-th (rising).");
+        Sentence s = says(18, "UPS: 10 times the MAN, and the manner, by which all SIGHTS are so (12 can be): how "
+            + "many; the i-th (rising).");
         RungRights x = new RungRights();
         s.due("the first", x.ups(0), 0);
         s.due("the last", x.ups(11), 51);
@@ -195,6 +196,14 @@ final class TrailsEdges extends Edges {
         missing(top, 12, 12);
         top.felt(11, true);
         s.due("from 8 onto 11, the next being MISSING", top.ups(-1), 12);
+        for (int stride = 2; stride <= 4; stride++) {
+            RungRights past = new RungRights();
+            strides(past, stride, stride, stride, stride, stride, stride);
+            missing(past, stride, stride);
+            past.felt(11, true);
+            past.felt(12, false);
+            dueUps(s, past, 0, 10, 20, 30, 40, 50);
+        }
     }
 
     private void promise18HeStoodThere() {
@@ -225,7 +234,8 @@ final class TrailsEdges extends Edges {
     }
 
     private void promise19WhichAndHowMany() {
-        Sentence s = says(19, "ASK: the RUNG to feel next, so that, whether or not, fewest of these are left at the most: the least; how many.");
+        Sentence s = says(19, "ASK: the RUNG to feel next, so that, whether or not, fewest of these are left at the "
+            + "most: the least; how many.");
         Sentence whats = says(19, "ASK: the RUNG (what = 0), how many (1); NONE: nothing fits.");
         RungRights x = new RungRights();
         dueAsk(whats, x, 1, 6);
@@ -244,6 +254,12 @@ final class TrailsEdges extends Edges {
         dueAsk(s, last, 12, 10);
         last.felt(12, true);
         dueAsk(s, last, 1, 2);
+        for (int rung = 1; rung <= RUNGS; rung++) {
+            RungRights one = new RungRights();
+            one.rung(rung, 0, -1, 0);
+            strides(one, 1, 1, 1, 1, 1, 1);
+            dueAsk(s, one, rung, 10);
+        }
         RungRights wet = new RungRights();
         wet.rung(RUNGS, 0, 1, 0);
         strides(wet, 1, 1, 1, 1, 1, 1);

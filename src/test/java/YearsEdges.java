@@ -132,7 +132,8 @@ final class YearsEdges extends Edges {
     }
 
     private void whoAndWhat() {
-        Sentence s = says(22, "of MAN x left over by 6, by x by 6 (cut) left over by 8, z being x by 48 (cut): 0 to 3 he steps");
+        Sentence s = says(22, "of MAN x left over by 6, by x by 6 (cut) left over by 8, z being x by 48 (cut): 0 to "
+            + "3 he steps");
         for (int man = 0; man < MEN; man++) {
             for (int kind = 0; kind <= 7; kind++) {
                 int m = man;
