@@ -37,12 +37,6 @@ final class ClimbsEdges extends Edges {
         s.due("leases(" + man + ", 1)", x.leases(man, 1), which);
     }
 
-    private static RungRights standing(int man, int stride, int place) {
-        RungRights x = new RungRights();
-        x.man(man, stride, 5, place);
-        return x;
-    }
-
     /** Others in the way, that he has STEPPED, beat 99, and what only stands on the pad are all no matter. */
     private void asThingsAreNow() {
         Sentence s = says(12, "(As things are now, nobody being in the way, all steps at once.)");

@@ -27,6 +27,18 @@ abstract class Edges {
         return new Sentence(check, document, promise, words);
     }
 
+    static void dueJudged(Sentence s, RungRights x, String text, int act, int why) {
+        Check.tell(x, text);
+        s.due("judge(0) of '" + text + "'", x.judge(0), act);
+        s.due("judge(1) of '" + text + "'", x.judge(1), why);
+    }
+
+    static RungRights standing(int man, int stride, int place) {
+        RungRights x = new RungRights();
+        x.man(man, stride, 5, place);
+        return x;
+    }
+
     static RungRights told(String text) {
         RungRights x = new RungRights();
         Check.tell(x, text);

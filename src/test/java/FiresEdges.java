@@ -38,12 +38,6 @@ final class FiresEdges extends Edges {
         promise11No();
     }
 
-    private void dueJudged(Sentence s, RungRights x, String text, int act, int why) {
-        Check.tell(x, text);
-        s.due("judge(0) of '" + text + "'", x.judge(0), act);
-        s.due("judge(1) of '" + text + "'", x.judge(1), why);
-    }
-
     private void promise7TheAct() {
         Sentence s = says(7, "JUDGED: the ACT (what = 0), why (1); NONE.");
         dueJudged(s, new RungRights(), "", NONE, NONE);

@@ -21,36 +21,30 @@ final class ReasonsEdges extends Edges {
         promise7TheLeastOfLeases();
     }
 
-    private void dueWhy(Sentence s, RungRights x, String text, int act, int why) {
-        Check.tell(x, text);
-        s.due("judge(0) of '" + text + "'", x.judge(0), act);
-        s.due("judge(1) of '" + text + "'", x.judge(1), why);
-    }
-
-    private void dueCan(Sentence s, RungRights x, String text) {
-        dueWhy(s, x, text, NONE, NONE);
+    private static void dueCan(Sentence s, RungRights x, String text) {
+        dueJudged(s, x, text, NONE, NONE);
     }
 
     private void promise7Reason1() {
         Sentence s = says(7, "1 he has STEPPED (a step)");
         RungRights x = new RungRights();
         x.rung(5, 1, -1, 0);
-        dueWhy(s, x, "AaAb", 1, 1);
-        dueWhy(s, x, "AaA_", 1, 1);
+        dueJudged(s, x, "AaAb", 1, 1);
+        dueJudged(s, x, "AaA_", 1, 1);
         dueCan(s, x, "Aa.Ab");
         dueCan(s, x, "AaBb");
         dueCan(s, x, "AaA%e");
         dueCan(s, x, "Aakc+cka");
-        dueWhy(s, x, "AakbkcAb", 3, 1);
+        dueJudged(s, x, "AakbkcAb", 3, 1);
         doneWith(x, "Aa");
-        dueWhy(s, x, "Ab", 0, 1);
+        dueJudged(s, x, "Ab", 0, 1);
         dueCan(s, x, ".Ab");
         for (int man = 0; man < MEN; man++) {
-            dueWhy(s, new RungRights(), "" + man(man) + 'a' + man(man) + '_', 1, 1);
+            dueJudged(s, new RungRights(), "" + man(man) + 'a' + man(man) + '_', 1, 1);
         }
         RungRights roof = new RungRights();
         roof.man(0, 1, 5, 11);
-        dueWhy(s, roof, "AlA^", 1, 1);
+        dueJudged(s, roof, "AlA^", 1, 1);
     }
 
     private void promise7Reason2WhereHeIs() {
@@ -58,8 +52,8 @@ final class ReasonsEdges extends Edges {
         for (int place = 0; place <= ROOF; place++) {
             RungRights x = new RungRights();
             x.man(2, 4, 5, place);
-            dueWhy(s, x, "C" + place(place), 0, 2);
-            dueWhy(s, x, ".C" + place(place), 1, 2);
+            dueJudged(s, x, "C" + place(place), 0, 2);
+            dueJudged(s, x, ".C" + place(place), 1, 2);
         }
     }
 
@@ -73,7 +67,7 @@ final class ReasonsEdges extends Edges {
                 for (int onto = 0; onto <= ROOF; onto++) {
                     int far = Math.abs(onto - from);
                     boolean can = far >= 1 && far <= stride;
-                    dueWhy(s, x, "F" + place(onto), can ? NONE : 0, can ? NONE : 2);
+                    dueJudged(s, x, "F" + place(onto), can ? NONE : 0, can ? NONE : 2);
                 }
             }
         }
@@ -87,9 +81,9 @@ final class ReasonsEdges extends Edges {
             missing(x, rung, rung);
             x.man(0, 1, 5, rung - 1);
             x.man(1, 1, 5, rung + 1);
-            dueWhy(s, x, "A" + place(rung), 0, 3);
-            dueWhy(s, x, "B" + place(rung), 0, 3);
-            dueWhy(s, x, "C%" + place(rung), 0, 3);
+            dueJudged(s, x, "A" + place(rung), 0, 3);
+            dueJudged(s, x, "B" + place(rung), 0, 3);
+            dueJudged(s, x, "C%" + place(rung), 0, 3);
             dueCan(s, x, "+" + place(rung) + "A" + place(rung));
         }
         RungRights all = new RungRights();
@@ -105,11 +99,11 @@ final class ReasonsEdges extends Edges {
         RungRights x = new RungRights();
         x.man(1, 1, 5, 2);
         x.rung(1, 1, -1, 0);
-        dueWhy(s, x, "Aa", 0, 4);
+        dueJudged(s, x, "Aa", 0, 4);
         dueCan(s, x, "Ba");
         dueCan(s, x, "A%aAa");
         x.rung(1, 1, 2, 0);
-        dueWhy(s, x, "Aa", 0, 4);
+        dueJudged(s, x, "Aa", 0, 4);
         dueCan(s, x, "Ca");
         dueCan(s, x, "Ba");
         x.rung(1, -1, -1, 0);
@@ -118,9 +112,9 @@ final class ReasonsEdges extends Edges {
         captain.rung(12, 5, -1, 0);
         captain.man(0, 1, 5, 11);
         captain.man(1, 2, 5, 11);
-        dueWhy(s, captain, "Al", 0, 4);
+        dueJudged(s, captain, "Al", 0, 4);
         dueCan(s, captain, "B^");
-        dueWhy(s, captain, "klAl", 1, 3);
+        dueJudged(s, captain, "klAl", 1, 3);
         dueCan(s, captain, "kl+lAl");
     }
 
@@ -130,7 +124,7 @@ final class ReasonsEdges extends Edges {
             RungRights x = new RungRights();
             x.man(0, 1, 5, rung - 1);
             x.man(5, 1, 5, rung);
-            dueWhy(s, x, "A" + place(rung), 0, 5);
+            dueJudged(s, x, "A" + place(rung), 0, 5);
             dueCan(s, x, "F" + place(rung + 1) + "A" + place(rung));
         }
         RungRights many = new RungRights();
@@ -138,8 +132,8 @@ final class ReasonsEdges extends Edges {
             many.man(man, 1, 5, man % 2 == 0 ? 1 : RUNGS);
         }
         dueCan(s, many, "A_C_E_B^D^F^");
-        dueWhy(s, many, "A_.Aa", 2, 5);
-        dueWhy(s, many, "A_C_.Aa", 3, 5);
+        dueJudged(s, many, "A_.Aa", 2, 5);
+        dueJudged(s, many, "A_C_.Aa", 3, 5);
         dueCan(s, many, "A_C_E_.Aa");
     }
 
@@ -148,8 +142,8 @@ final class ReasonsEdges extends Edges {
         RungRights x = new RungRights();
         for (int man = 0; man < MEN; man++) {
             x.rung(1 + man, man, -1, 0);
-            dueWhy(s, x, man(man) + "%" + place(1 + man), 0, 6);
-            dueWhy(s, x, man(man) + "%l", 0, 6);
+            dueJudged(s, x, man(man) + "%" + place(1 + man), 0, 6);
+            dueJudged(s, x, man(man) + "%l", 0, 6);
             dueCan(s, x, man((man + 1) % MEN) + "%" + place(1 + man));
         }
     }
@@ -158,13 +152,13 @@ final class ReasonsEdges extends Edges {
         Sentence s = says(7, "7 it is LEASED already (%)");
         RungRights x = new RungRights();
         x.rung(1, 1, 2, 0);
-        dueWhy(s, x, "A%a", 0, 7);
-        dueWhy(s, x, "C%a", 0, 7);
+        dueJudged(s, x, "A%a", 0, 7);
+        dueJudged(s, x, "C%a", 0, 7);
         x.rung(1, 1, -1, 0);
         dueCan(s, x, "A%a");
-        dueWhy(s, x, "A%aA%a", 1, 7);
-        dueWhy(s, x, "A%aC%a", 1, 7);
-        dueWhy(s, x, "A%aka+aC%a", 3, 6);
+        dueJudged(s, x, "A%aA%a", 1, 7);
+        dueJudged(s, x, "A%aC%a", 1, 7);
+        dueJudged(s, x, "A%aka+aC%a", 3, 6);
     }
 
     private void promise7Reason8() {
@@ -174,12 +168,12 @@ final class ReasonsEdges extends Edges {
         x.rung(2, 1, -1, 0);
         x.rung(3, 0, -1, 0);
         x.man(0, 2, 0, 0);
-        dueWhy(s, x, "A%a", 0, 8);
+        dueJudged(s, x, "A%a", 0, 8);
         dueCan(s, x, "B%cA%a");
-        dueWhy(s, x, "B%cA%aA%b", 2, 8);
+        dueJudged(s, x, "B%cA%aA%b", 2, 8);
         x.man(0, 2, 1, 0);
         dueCan(s, x, "A%a");
-        dueWhy(s, x, "A%aA%b", 1, 8);
+        dueJudged(s, x, "A%aA%b", 1, 8);
         x.man(0, 2, 2, 0);
         dueCan(s, x, "A%aA%b");
         x.man(0, 3, 0, 0);
@@ -190,13 +184,13 @@ final class ReasonsEdges extends Edges {
         Sentence s = says(7, "9 it is MISSING already (k), is not (+)");
         for (int rung = 1; rung <= RUNGS; rung++) {
             RungRights x = new RungRights();
-            dueWhy(s, x, "+" + place(rung), 0, 9);
+            dueJudged(s, x, "+" + place(rung), 0, 9);
             dueCan(s, x, "k" + place(rung));
-            dueWhy(s, x, "k" + place(rung) + "k" + place(rung), 1, 9);
+            dueJudged(s, x, "k" + place(rung) + "k" + place(rung), 1, 9);
             missing(x, rung, rung);
-            dueWhy(s, x, "k" + place(rung), 0, 9);
+            dueJudged(s, x, "k" + place(rung), 0, 9);
             dueCan(s, x, "+" + place(rung));
-            dueWhy(s, x, "+" + place(rung) + "+" + place(rung), 1, 9);
+            dueJudged(s, x, "+" + place(rung) + "+" + place(rung), 1, 9);
         }
     }
 
@@ -204,14 +198,14 @@ final class ReasonsEdges extends Edges {
         Sentence s = says(7, "10 it is beat 99 (.)");
         RungRights x = atBeat(97);
         dueCan(s, x, "..");
-        dueWhy(s, x, "...", 2, 10);
+        dueJudged(s, x, "...", 2, 10);
         doneWith(x, ".");
         dueCan(s, x, ".");
         doneWith(x, ".");
         s.due("the beat", x.told(1), 99);
-        dueWhy(s, x, ".", 0, 10);
+        dueJudged(s, x, ".", 0, 10);
         dueCan(s, x, "AaBbkc+c");
-        dueWhy(s, x, "Aa.Ab", 1, 10);
+        dueJudged(s, x, "Aa.Ab", 1, 10);
         doneWith(x, ".");
         s.due("the beat still", x.told(1), 99);
     }
@@ -224,26 +218,26 @@ final class ReasonsEdges extends Edges {
         x.man(5, 1, 5, 3);
         x.man(4, 1, 5, 5);
         missing(x, 4, 4);
-        dueWhy(s, x, "AbAb", 1, 1);
-        dueWhy(s, x, "AbA^", 1, 1);
-        dueWhy(s, x, "AbAd", 1, 1);
-        dueWhy(s, x, "AbAc", 1, 1);
-        dueWhy(s, x, "AbAe", 1, 1);
-        dueWhy(s, x, "Ad", 0, 2);
-        dueWhy(s, x, "Ac", 0, 2);
-        dueWhy(s, x, "Ae", 0, 2);
+        dueJudged(s, x, "AbAb", 1, 1);
+        dueJudged(s, x, "AbA^", 1, 1);
+        dueJudged(s, x, "AbAd", 1, 1);
+        dueJudged(s, x, "AbAc", 1, 1);
+        dueJudged(s, x, "AbAe", 1, 1);
+        dueJudged(s, x, "Ad", 0, 2);
+        dueJudged(s, x, "Ac", 0, 2);
+        dueJudged(s, x, "Ae", 0, 2);
         x.man(0, 2, 5, 2);
-        dueWhy(s, x, "Ad", 0, 3);
-        dueWhy(s, x, "Ac", 0, 4);
+        dueJudged(s, x, "Ad", 0, 3);
+        dueJudged(s, x, "Ac", 0, 4);
         x.man(3, 1, 5, 4);
-        dueWhy(s, x, "Ad", 0, 3);
+        dueJudged(s, x, "Ad", 0, 3);
         x.rung(3, 0, -1, 0);
-        dueWhy(s, x, "Ac", 0, 5);
+        dueJudged(s, x, "Ac", 0, 5);
         x.rung(3, 1, -1, 0);
         x.man(0, 2, 5, 3);
-        dueWhy(s, x, "Ac", 0, 2);
+        dueJudged(s, x, "Ac", 0, 2);
         missing(x, 3, 3);
-        dueWhy(s, x, "Ac", 0, 2);
+        dueJudged(s, x, "Ac", 0, 2);
     }
 
     private void promise7TheLeastOfLeases() {
@@ -254,15 +248,15 @@ final class ReasonsEdges extends Edges {
         x.rung(2, 0, 1, 0);
         x.rung(3, 1, 2, 0);
         x.rung(4, 1, -1, 0);
-        dueWhy(s, x, "A%a", 0, 3);
-        dueWhy(s, x, "A%b", 0, 6);
-        dueWhy(s, x, "A%l", 0, 6);
-        dueWhy(s, x, "A%c", 0, 7);
-        dueWhy(s, x, "A%d", 0, 8);
+        dueJudged(s, x, "A%a", 0, 3);
+        dueJudged(s, x, "A%b", 0, 6);
+        dueJudged(s, x, "A%l", 0, 6);
+        dueJudged(s, x, "A%c", 0, 7);
+        dueJudged(s, x, "A%d", 0, 8);
         x.man(0, 1, 1, 0);
-        dueWhy(s, x, "A%a", 0, 3);
-        dueWhy(s, x, "A%b", 0, 6);
-        dueWhy(s, x, "A%c", 0, 7);
+        dueJudged(s, x, "A%a", 0, 3);
+        dueJudged(s, x, "A%b", 0, 6);
+        dueJudged(s, x, "A%c", 0, 7);
         dueCan(s, x, "A%d");
     }
 }

@@ -3,63 +3,42 @@ import java.util.List;
 /** Objects in the states in which calls are refused, or must change nothing. */
 enum Scene {
     /** As it was made: nothing said, nothing felt, nothing kept. */
-    FRESH {
-        @Override
-        RungRights make() {
-            return new RungRights();
-        }
-    },
+    FRESH(false, ""),
 
     /** Everything is other than at first, both images are kept, and a text stands that can be. */
-    RICH {
-        @Override
-        RungRights make() {
-            RungRights x = new RungRights();
-            settle(x);
-            Check.tell(x, "B%iBf.Ci");
-            return x;
-        }
-    },
+    RICH(true, "B%iBf.Ci"),
 
     /** Likewise, and the pad and the sights are full. */
-    BRIM {
-        @Override
-        RungRights make() {
-            RungRights x = new RungRights();
-            settle(x);
-            Check.tell(x, ".".repeat(60));
-            for (int i = x.told(5); i < 8; i++) {
-                x.felt(9, false);
-            }
-            return x;
-        }
-    },
+    BRIM(true, ".".repeat(60)),
 
     /** Likewise, and the text lacks a sign. */
-    FAULTY {
-        @Override
-        RungRights make() {
-            RungRights x = new RungRights();
-            settle(x);
-            Check.tell(x, "Bf.A");
-            return x;
-        }
-    },
+    FAULTY(true, "Bf.A"),
 
     /** Likewise, and the text has an act that can not be. */
-    STUCK {
-        @Override
-        RungRights make() {
-            RungRights x = new RungRights();
-            settle(x);
-            Check.tell(x, "Bf.kg");
-            return x;
-        }
-    };
+    STUCK(true, "Bf.kg");
 
+    private final boolean isSettled;
+    private final String text;
     private List<String> shown;
 
-    abstract RungRights make();
+    Scene(boolean isSettled, String text) {
+        this.isSettled = isSettled;
+        this.text = text;
+    }
+
+    RungRights make() {
+        RungRights x = new RungRights();
+        if (isSettled) {
+            settle(x);
+        }
+        for (int i = 0; this == BRIM && i < 8; i++) {
+            x.felt(9, false);
+        }
+        for (int i = 0; i < text.length(); i++) {
+            x.say(text.charAt(i));
+        }
+        return x;
+    }
 
     /** What is seen of it if no call comes between. */
     List<String> shown() {

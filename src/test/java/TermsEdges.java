@@ -19,15 +19,14 @@ final class TermsEdges extends Edges {
     }
 
     private void constants() {
-        Sentence s = says(1, "NONE = -6, UNKNOWN = -1, OUTSIDE = -2, STATE = -3, FULL = -4, NO = -5; LOST = "
-            + "-1000000000000000000L;");
-        s.due("NONE", RungRights.NONE, -6);
-        s.due("UNKNOWN", RungRights.UNKNOWN, -1);
-        s.due("OUTSIDE", RungRights.OUTSIDE, -2);
-        s.due("STATE", RungRights.STATE, -3);
-        s.due("FULL", RungRights.FULL, -4);
-        s.due("NO", RungRights.NO, -5);
-        s.due("LOST", RungRights.LOST, -1000000000000000000L);
+        Sentence s = says(1, "NONE = -6, UNKNOWN = -1, OUTSIDE = -2, STATE = -3, FULL = -4, NO = -5; "
+            + "LOST = -1000000000000000000L;");
+        int[] told = {NONE, UNKNOWN, OUTSIDE, STATE, FULL, NO};
+        int[] due = {-6, -1, -2, -3, -4, -5};
+        for (int i = 0; i < due.length; i++) {
+            s.due("constant " + i, told[i], due[i]);
+        }
+        s.due("LOST", LOST, -1000000000000000000L);
     }
 
     private void the512thCall() {

@@ -69,12 +69,6 @@ final class YearsEdges extends Edges {
         throw new IllegalStateException("no such seed");
     }
 
-    private static RungRights standing(int man, int stride, int place) {
-        RungRights x = new RungRights();
-        x.man(man, stride, 5, place);
-        return x;
-    }
-
     /** 0 draws 74: C, a lease of RUNG 2; 9999 draws 29092: E, up, by 1 and 606 left over by his STRIDE. */
     private void leastAndGreatestSeed() {
         Sentence s = says(22, "A YEAR by a seed (0 to 9999) of m ACTS (1 to 99), from all as it is");
