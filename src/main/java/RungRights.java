@@ -1049,6 +1049,9 @@ public final class RungRights {
         }
 
         private int lowestPost(int man, int free) {
+            if (!isMan(man)) {
+                return NONE;
+            }
             int wanted = mostFrom(man, free);
             for (int rung = 1; rung <= RUNGS; rung++) {
                 if ((open[man] & free & bitOf(rung)) != 0
@@ -1064,6 +1067,9 @@ public final class RungRights {
          * group of them has too few rungs among it (the marriage theorem, with its deficiency).
          */
         private int mostFrom(int firstMan, int free) {
+            if (!isMan(firstMan)) {
+                return 0;
+            }
             int men = MEN - firstMan;
             int most = men;
             for (int group = 0; group < 1 << men; group++) {

@@ -47,7 +47,14 @@ public final class FaceTest {
             }
         }
         check.holds("methods are the document's: " + seen, seen.equals(new TreeSet<>(Arrays.asList(METHODS))));
-        for (Method method : RungRights.class.getDeclaredMethods()) {
+        checkPrivateNames(check, RungRights.class, openNames);
+        for (Class<?> inside : RungRights.class.getDeclaredClasses()) {
+            checkPrivateNames(check, inside, openNames);
+        }
+    }
+
+    private static void checkPrivateNames(Check check, Class<?> owner, Set<String> openNames) {
+        for (Method method : owner.getDeclaredMethods()) {
             if (Modifier.isPrivate(method.getModifiers())) {
                 check.holds(method + " bears a name of its own", !openNames.contains(method.getName()));
             }

@@ -1,7 +1,9 @@
 import java.io.IOException;
 import java.nio.file.Files;
 import java.nio.file.Path;
+import java.util.Map;
 import java.util.Set;
+import java.util.TreeMap;
 import java.util.regex.Matcher;
 import java.util.regex.Pattern;
 
@@ -9,6 +11,9 @@ import java.util.regex.Pattern;
 public final class LanguageTest {
     private static final int LONGEST_METHOD = 60;
     private static final int MOST_PARAMETERS = 7;
+    private static final int DEEPEST_CALLS = 8;
+    private static final int OBJECTS_MEASURED = 1000;
+    private static final int MOST_BYTES_OF_AN_OBJECT = 4000;
     private static final Set<String> LIBRARY = Set.of("Arrays.fill", "Math.min", "Math.max", "Math.abs",
         "Integer.bitCount", "System.arraycopy");
 
@@ -20,7 +25,9 @@ public final class LanguageTest {
         barredWords(code);
         libraryCalls(code);
         methodSizes(source);
+        callsGoFewDeep(source);
         callsMakeNothing();
+        objectsAreSmall();
         check.end();
     }
 
@@ -50,24 +57,44 @@ public final class LanguageTest {
         }
     }
 
+    /** A method's head with its name (2) and parameters (3), and its body (4). */
+    private static Matcher methodsIn(String source) {
+        return Pattern.compile("(?ms)^( {4}| {8})(?!if)[a-z][\\w\\[\\] ]*\\b(\\w+)\\(([^)\\n]*)\\) \\{\\n(.*?)^\\1\\}$").matcher(source);
+    }
+
     private static void methodSizes(String source) {
-        Pattern head = Pattern.compile("^( {4}| {8})[a-z][\\w\\[\\] ]*\\b(\\w+)\\(([^)]*)\\) \\{$");
-        String[] lines = source.split("\n");
-        int heads = 0;
-        for (int i = 0; i < lines.length; i++) {
-            Matcher matcher = head.matcher(lines[i]);
-            if (!matcher.matches() || lines[i].trim().startsWith("if")) {
-                continue;
-            }
-            heads++;
-            int end = i;
-            while (!lines[end].equals(matcher.group(1) + "}")) {
-                end++;
-            }
-            check.holds(matcher.group(2) + " is short", end - i + 1 <= LONGEST_METHOD);
-            check.holds(matcher.group(2) + " takes few", matcher.group(3).split(",").length <= MOST_PARAMETERS);
+        Matcher methods = methodsIn(source);
+        int found = 0;
+        while (methods.find()) {
+            found++;
+            check.holds(methods.group(2) + " is short", methods.group().lines().count() <= LONGEST_METHOD);
+            check.holds(methods.group(2) + " takes few", methods.group(3).split(",").length <= MOST_PARAMETERS);
         }
-        check.holds("methods were found", heads > 60);
+        check.holds("methods were found", found > 100);
+    }
+
+    /** Methods of one name are taken for one: that can only make the row of calls seem deeper than it is. */
+    private static void callsGoFewDeep(String source) {
+        Map<String, String> bodies = new TreeMap<>();
+        Matcher methods = methodsIn(source);
+        while (methods.find()) {
+            bodies.merge(methods.group(2), methods.group(4), String::concat);
+        }
+        for (String name : bodies.keySet()) {
+            int deep = callsDeep(name, bodies, 0);
+            check.holds(name + " goes " + deep + " calls deep", deep <= DEEPEST_CALLS);
+        }
+    }
+
+    private static int callsDeep(String name, Map<String, String> bodies, int above) {
+        int deepest = 0;
+        Matcher called = Pattern.compile("\\b(\\w+)\\(").matcher(bodies.get(name));
+        while (called.find() && above <= DEEPEST_CALLS) {
+            if (bodies.containsKey(called.group(1))) {
+                deepest = Math.max(deepest, callsDeep(called.group(1), bodies, above + 1));
+            }
+        }
+        return 1 + deepest;
     }
 
     /** All calls of all runs share one room, so a call that made objects could fill it. */
@@ -88,6 +115,23 @@ public final class LanguageTest {
         }
         long made = bean.getThreadAllocatedBytes(id) - before;
         check.holds("calls make nothing, but they made " + made + " bytes (" + sum + ")", made < 10000);
+    }
+
+    /** An object with all that its calls ever make, both images: in bytes more than it has of fields and elements. */
+    private static void objectsAreSmall() {
+        com.sun.management.ThreadMXBean bean =
+            (com.sun.management.ThreadMXBean) java.lang.management.ManagementFactory.getThreadMXBean();
+        if (!bean.isThreadAllocatedMemorySupported()) {
+            return;
+        }
+        long id = Thread.currentThread().getId();
+        long before = bean.getThreadAllocatedBytes(id);
+        long sum = 0;
+        for (int i = 0; i < OBJECTS_MEASURED; i++) {
+            sum += manyCalls(new RungRights());
+        }
+        long each = (bean.getThreadAllocatedBytes(id) - before) / OBJECTS_MEASURED;
+        check.holds("an object takes " + each + " bytes in all (" + sum + ")", each <= MOST_BYTES_OF_AN_OBJECT);
     }
 
     private static long manyCalls(RungRights x) {
